@@ -492,6 +492,8 @@ public final class RadixDesk {
                 return false;
             }
             long most = mostSize(isBelow, isPlain, isWide);
+            long mostInFront = Long.divideUnsigned(most, radix);
+            long mostAtLast = most - mostInFront * radix;
             long size = 0;
             for (int k = first; k < to; k++) {
                 int digit = Digits.valueOf(row.byteAt(k));
@@ -499,7 +501,8 @@ public final class RadixDesk {
                     return false;
                 }
                 // Asked before the size grows: past 64 bits it would wrap round unseen.
-                if (Long.compareUnsigned(size, Long.divideUnsigned(most - digit, radix)) > 0) {
+                int order = Long.compareUnsigned(size, mostInFront);
+                if (order > 0 || order == 0 && digit > mostAtLast) {
                     return false;
                 }
                 size = size * radix + digit;
@@ -596,8 +599,9 @@ public final class RadixDesk {
 
         /** The W bits become those of the number; returns the number of the cell then. */
         long put(int cell, long number) {
-            keep(cell, Bits.signed(number, isWide));
-            return signed(cell);
+            long kept = Bits.signed(number, isWide);
+            keep(cell, kept);
+            return kept;
         }
 
         long signed(int cell) {
@@ -792,7 +796,7 @@ public final class RadixDesk {
         }
     }
 
-    /** A statement of the text, used again for each text that is looked at. */
+    /** A statement of the text, used again for each text: what its verb does not ask for may be of another text. */
     private static final class Statement {
         private final long[] arguments;
         private Verb verb;
@@ -810,11 +814,6 @@ public final class RadixDesk {
         void begin(Verb newVerb, int newPlace) {
             verb = newVerb;
             place = newPlace;
-            pieceFrom = 0;
-            pieceTo = 0;
-            for (int k = 0; k < arguments.length; k++) {
-                arguments[k] = 0;
-            }
         }
 
         void setArgument(int index, long argument) {

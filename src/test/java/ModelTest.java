@@ -3,7 +3,9 @@ import java.util.function.Supplier;
 /** All promises: long runs of mixed calls, each compared with what the model answers. */
 public final class ModelTest {
     private static final int RUNS = 3000;
-    private static final int CALLS = 120;
+    private static final int TURNS = 120;
+    /** An object is promised for 512 calls: a turn makes 45 at most, the look at its end 140. */
+    private static final int CALLS_BEFORE_A_TURN = 512 - 140 - 45;
     private static final String[] VERBS = {
         "wide", "narrow", "set", "read", "readplain", "write", "writeplain", "back", "backplain", "reverse", "bytes",
         "highest", "lowest", "spread", "count", "leading", "trailing", "ones", "left", "right", "add", "subtract",
@@ -18,6 +20,7 @@ public final class ModelTest {
     private final RadixDesk desk = new RadixDesk();
     private final Model model = new Model();
     private final StringBuilder told = new StringBuilder();
+    private int calls = 0;
 
     private ModelTest(long seed) {
         dice = new Dice(seed);
@@ -25,17 +28,21 @@ public final class ModelTest {
 
     public static void main(String[] args) {
         for (int k = 0; k < RUNS; k++) {
-            new ModelTest(k).play(k);
+            new ModelTest(k).play();
         }
         Check.end();
     }
 
-    private void play(int run) {
-        for (int k = 0; k < CALLS; k++) {
+    private void play() {
+        for (int k = 0; k < TURNS && calls <= CALLS_BEFORE_A_TURN; k++) {
             call(dice.below(48));
         }
-        same("the text", () -> Check.text(desk), () -> model.text);
         same("the page", () -> Check.page(desk), () -> model.page);
+        same("textLength()", () -> desk.textLength(), () -> model.text.length());
+        for (int k = 0; k < 60; k++) {
+            int index = model.text.length() - 1 - k;
+            same("textAt(" + index + ")", () -> desk.textAt(index), () -> Model.byteAt(model.text, index));
+        }
         same("setWide(true)", () -> desk.setWide(true), () -> model.setWide(true));
         for (int k = 0; k < 8; k++) {
             int cell = k;
@@ -53,6 +60,7 @@ public final class ModelTest {
 
     private void same(String what, Supplier<Object> call, Supplier<Object> want) {
         told.append(what).append("; ");
+        calls++;
         Object due = answer(want);
         Object got = answer(call);
         Check.due(got.equals(due) ? what : "after " + told, got, due);
@@ -102,7 +110,7 @@ public final class ModelTest {
         switch (kind) {
             case 'C': return String.valueOf(dice.below(8));
             case 'R': return String.valueOf(radix);
-            case 'T': return String.valueOf(dice.below(12) == 0 ? dice.below(52) : dice.below(5));
+            case 'T': return String.valueOf(dice.below(2) == 0 ? dice.below(52) : dice.below(5));
             case 'N': return String.valueOf(number());
             default: return piece(radix, dice.below(2) == 0);
         }
@@ -124,7 +132,7 @@ public final class ModelTest {
             return all.append(dice.below(150) == 0 ? "" : dice.below(2) == 0 ? ";" : "; ").toString();
         }
         all.append(dice.below(100) == 0 ? "" : "{");
-        for (int k = dice.below(4); k > 0 && depth < 5; k--) {
+        for (int k = dice.below(5); k > 0 && depth < 5; k--) {
             all.append(statement(depth + 1));
         }
         return all.append(dice.below(100) == 0 ? "" : "}").toString();
@@ -142,6 +150,7 @@ public final class ModelTest {
     private void retype(String signs) {
         same("clearText()", () -> desk.clearText(), () -> model.clearText());
         Check.type(desk, signs);
+        calls += (signs.length() + 7) / 8;
         model.text = signs;
         told.append("typed ").append(signs).append("; ");
     }

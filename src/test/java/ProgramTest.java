@@ -21,6 +21,7 @@ public final class ProgramTest {
 
     private static void error(RadixDesk desk, String text, int kind, int place) {
         String before = Check.state(desk);
+        Check.due("errorPlace() asked first of " + text, desk.errorPlace(), place);
         Check.due("errorKind() of " + text, desk.errorKind(), kind);
         Check.due("errorPlace() of " + text, desk.errorPlace(), place);
         Check.due("the desk after the errors of " + text, Check.state(desk), before);
@@ -125,6 +126,8 @@ public final class ProgramTest {
         error("write 0 4294967298;", 2, 8);
         error("read 0 37 1;", 2, 7);
         error("readplain 9 10 1;", 2, 10);
+        error("read 9 ;", 2, 5);
+        error("read 9", 2, 5);
         error("back 0 1;", 2, 7);
         error("backplain 0 a;", 2, 12);
         error("loop 51{}", 2, 5);
