@@ -469,7 +469,7 @@ public final class RadixDesk {
             long left = isBelow ? -number : number;
             row.empty();
             for (int k = 0; k < 64 && (k == 0 || left != 0); k++) {
-                long quotient = Long.divideUnsigned(left, base);
+                long quotient = Bits.plainQuotient(left, base);
                 row.append(byteFor((int) (left - quotient * base)));
                 left = quotient;
             }
@@ -492,7 +492,7 @@ public final class RadixDesk {
                 return false;
             }
             long most = mostSize(isBelow, isPlain, isWide);
-            long mostInFront = Long.divideUnsigned(most, radix);
+            long mostInFront = Bits.plainQuotient(most, radix);
             long mostAtLast = most - mostInFront * radix;
             long size = 0;
             for (int k = first; k < to; k++) {
@@ -501,7 +501,7 @@ public final class RadixDesk {
                     return false;
                 }
                 // Asked before the size grows: past 64 bits it would wrap round unseen.
-                int order = Long.compareUnsigned(size, mostInFront);
+                int order = Bits.plainOrder(size, mostInFront);
                 if (order > 0 || order == 0 && digit > mostAtLast) {
                     return false;
                 }
@@ -520,7 +520,10 @@ public final class RadixDesk {
         }
     }
 
-    /** The W bits of a number, taken as bits; what is above them in an answer is free. */
+    /**
+     * What a number is by its bits. Where the width is asked, its W bits alone count, and what is above them in an
+     * answer is free; a plain number fills all 64.
+     */
     private static final class Bits {
         static long signed(long bits, boolean isWide) {
             return isWide ? bits : (int) bits;
@@ -560,6 +563,30 @@ public final class RadixDesk {
 
         static long lowestBit(long bits, boolean isWide) {
             return isWide ? Long.lowestOneBit(bits) : Integer.lowestOneBit((int) bits);
+        }
+
+        /** Returns -1 if the first one is less, 0 if they are equal, 1 if it is greater. */
+        static int plainOrder(long first, long second) {
+            if (first == second) {
+                return 0;
+            }
+            // With their highest bits turned over, plain numbers stand in the order of numbers with a sign.
+            return (first ^ LEAST_WIDE) < (second ^ LEAST_WIDE) ? -1 : 1;
+        }
+
+        /** What is divided by 0 here becomes 0, so that no call can throw; callers ask for 0 before. */
+        static long plainQuotient(long number, long by) {
+            if (by <= 0) {
+                // A plain number from 2^63 on is in another one at most once, and only if that is from 2^63 on, too.
+                return number < 0 && number >= by ? 1 : 0;
+            }
+            if (number >= 0) {
+                return number / by;
+            }
+            // Half of the number has no highest bit that "/" could take for a sign; twice its quotient may lack 1.
+            long quotient = (number >>> 1) / by * 2;
+            long left = number - quotient * by;
+            return left < 0 || left >= by ? quotient + 1 : quotient;
         }
     }
 
@@ -696,7 +723,7 @@ public final class RadixDesk {
             if (second == 0) {
                 return false;
             }
-            long quotient = isPlain ? Long.divideUnsigned(first, second) : first / second;
+            long quotient = isPlain ? Bits.plainQuotient(first, second) : first / second;
             put(cell, quotient);
             put(rest, first - quotient * second);
             return true;
@@ -705,7 +732,7 @@ public final class RadixDesk {
         int compared(int cell, int other, boolean isPlain) {
             long first = valueOf(cell, isPlain);
             long second = valueOf(other, isPlain);
-            return Integer.signum(isPlain ? Long.compareUnsigned(first, second) : Long.compare(first, second));
+            return isPlain ? Bits.plainOrder(first, second) : Integer.signum(Long.compare(first, second));
         }
 
         int sortCells(boolean isPlain) {
@@ -971,12 +998,14 @@ public final class RadixDesk {
             int first = statement.smallArgument(0);
             int second = statement.smallArgument(1);
             int third = statement.smallArgument(2);
+            int from = statement.pieceFrom;
+            int to = statement.pieceTo;
             switch (statement.verb) {
                 case WIDE: trial.isWide = true; return true;
                 case NARROW: trial.isWide = false; return true;
                 case SET: trial.keep(first, statement.argument(1)); return true;
-                case READ: return takePiece(statement, false);
-                case READ_PLAIN: return takePiece(statement, true);
+                case READ: return trial.takePiece(first, words.text, from, to, second, false);
+                case READ_PLAIN: return trial.takePiece(first, words.text, from, to, second, true);
                 case WRITE: trial.writePage(first, second, false); return true;
                 case WRITE_PLAIN: trial.writePage(first, second, true); return true;
                 case BACK: return trial.takePage(first, second, false);
@@ -992,12 +1021,6 @@ public final class RadixDesk {
                 case ONES: trial.put(second, trial.onesBehind(first)); return true;
                 default: trial.put(first, changed(statement.verb, first, second)); return true;
             }
-        }
-
-        private boolean takePiece(Statement statement, boolean isPlain) {
-            int cell = statement.smallArgument(0);
-            int radix = statement.smallArgument(1);
-            return trial.takePiece(cell, words.text, statement.pieceFrom, statement.pieceTo, radix, isPlain);
         }
 
         /** What the first cell becomes by a statement that changes just its W bits. */
@@ -1147,9 +1170,9 @@ public final class RadixDesk {
             if (second == 0) {
                 return true;
             }
-            long quotient = Long.divideUnsigned(first, second);
-            long rest = Long.remainderUnsigned(first, second);
-            return quotient * second + rest == first && Long.compareUnsigned(rest, second) < 0;
+            long quotient = Bits.plainQuotient(first, second);
+            long taken = quotient * second;
+            return Bits.plainOrder(taken, first) <= 0 && Bits.plainOrder(first - taken, second) < 0;
         }
     }
 }

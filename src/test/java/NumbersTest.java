@@ -18,6 +18,7 @@ public final class NumbersTest {
                 }
             }
         }
+        plainQuotients();
         sameCells();
         sorting();
         wrongCalls();
@@ -89,6 +90,24 @@ public final class NumbersTest {
             under.divide(1, 6, 6, isPlain);
             Check.due("quotient beside " + what, Check.bits(under, 1), canBe ? put(parts[0], width) : first);
             Check.due("rest over the second of " + what, Check.bits(under, 6), canBe ? put(parts[1], width) : second);
+        }
+    }
+
+    /** Plain numbers up to 2^64 - 1 near the places where a quotient by halves, or by signs, would go wrong. */
+    private static void plainQuotients() {
+        long highest = Long.MIN_VALUE;
+        for (long by : new long[] {1, 2, 3, 5, 7, 36, 1L << 31, 1L << 32, (1L << 32) + 1, 1L << 62, (1L << 62) + 1,
+                Long.MAX_VALUE / 3, Long.MAX_VALUE - 1, Long.MAX_VALUE, highest, highest + 1, highest + 2, -2, -1}) {
+            for (long times : new long[] {0, 1, 2, 3, 4, Long.divideUnsigned(highest, by), Long.divideUnsigned(-1, by)}) {
+                for (long more = -2; more <= 2; more++) {
+                    divided(times * by + more, by, 64);
+                    compared(times * by + more, by, 64);
+                }
+            }
+            for (long more = -2; more <= 2; more++) {
+                divided(highest + more, by, 64);
+                compared(highest + more, by, 64);
+            }
         }
     }
 
