@@ -126,9 +126,9 @@ public final class BitsTest {
     }
 
     private static void wrongCells() {
-        RadixDesk desk = deskOf(12, 32);
         for (int cell : new int[] {-1, 8, Integer.MIN_VALUE, Integer.MAX_VALUE}) {
             String behind = "(" + cell + ")";
+            RadixDesk desk = deskOf(12, 32);
             Check.noCell("count" + behind, desk, () -> desk.count(cell));
             Check.noCell("leading" + behind, desk, () -> desk.leading(cell));
             Check.noCell("trailing" + behind, desk, () -> desk.trailing(cell));

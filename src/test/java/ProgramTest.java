@@ -344,20 +344,18 @@ public final class ProgramTest {
         Check.due("the page stays", Check.page(desk), "1296");
     }
 
-    private static void nothingChanges() {
-        RadixDesk desk = new RadixDesk();
+    private static RadixDesk written(String text) {
+        RadixDesk desk = Check.deskWith(text);
         desk.set(0, 5);
         desk.write(0, 2, false);
-        Check.type(desk, "wide;fill");
-        error(desk, "wide;fill", 1, 5);
-        desk.clearText();
-        Check.type(desk, "wide;set 0 1;write 0 10;divide 0 5 1;");
-        error(desk, "wide; .. divide by 0", 3, 24);
-        desk.clearText();
-        Check.type(desk, "wide;set 0 1;loop 50{loop 9{write 0 3;}}");
-        error(desk, "wide; .. too many steps", 4, 28);
-        desk.clearText();
-        Check.type(desk, "set 0 77;wide;write 0 8;");
+        return desk;
+    }
+
+    private static void nothingChanges() {
+        error(written("wide;fill"), "wide;fill", 1, 5);
+        error(written("wide;set 0 1;write 0 10;divide 0 5 1;"), "wide; .. divide by 0", 3, 24);
+        error(written("wide;set 0 1;loop 50{loop 9{write 0 3;}}"), "wide; .. too many steps", 4, 28);
+        RadixDesk desk = written("set 0 77;wide;write 0 8;");
         error(desk, "a program that could run", 0, RadixDesk.NONE);
         Check.due("number(0) before run()", desk.number(0), 5);
         Check.due("run()", desk.run(), 3);

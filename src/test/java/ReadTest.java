@@ -146,8 +146,9 @@ public final class ReadTest {
         };
         for (int[] w : wrong) {
             String what = "read(" + w[0] + ", " + w[1] + ", " + w[2] + ", ..)";
-            Check.noCell(what, desk, () -> desk.read(w[0], w[1], w[2], 10, false));
-            Check.noCell(what + " in radix 99", desk, () -> desk.read(w[0], w[1], w[2], 99, true));
+            RadixDesk other = Check.deskWith("x12y");
+            Check.noCell(what, other, () -> other.read(w[0], w[1], w[2], 10, false));
+            Check.noCell(what + " in radix 99", other, () -> other.read(w[0], w[1], w[2], 99, true));
         }
     }
 
