@@ -2,6 +2,7 @@ import java.io.IOException;
 import java.nio.file.Files;
 import java.nio.file.Path;
 import java.util.ArrayList;
+import java.util.Arrays;
 import java.util.LinkedHashMap;
 import java.util.List;
 import java.util.Map;
@@ -27,7 +28,7 @@ final class Document {
             String words = quotation[1].replaceAll("\\s+", " ");
             Check.due(quotation[0] + " has: " + words, text.contains(words), true);
             for (int at = text.indexOf(words); at >= 0; at = text.indexOf(words, at + 1)) {
-                java.util.Arrays.fill(quoted.get(quotation[0]), at, at + words.length(), true);
+                Arrays.fill(quoted.get(quotation[0]), at, at + words.length(), true);
             }
         }
         sections.forEach((name, text) -> Check.due("words of " + name + " without a test",

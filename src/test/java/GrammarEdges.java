@@ -262,6 +262,9 @@ final class GrammarEdges {
         }
         for (String word : not) {
             error(front + word + behind + end, 2, front.length());
+            error(front + word, 2, front.length());
+            error(front + word + ";", 2, front.length());
+            error(front + word + " }", 2, front.length());
         }
     }
 

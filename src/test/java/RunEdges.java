@@ -7,7 +7,7 @@ final class RunEdges {
         0, 1, -1, 31, 0x7fff_ffffL, 0x8000_0000L, 0xffff_ffffL, 0x1_0000_0000L, -0x1_0000_0000L, 0x5a5a_5a5a_0000_0001L,
         Long.MAX_VALUE, Long.MIN_VALUE, 0x1234_5678_9abc_def0L,
     };
-    /** 500 steps: 49 rounds of ten, the loop itself and nine more. */
+    /** 491 steps: 49 rounds of ten, and the loop itself. */
     private static final String STEPS_491 = "loop 49{loop 9{wide;}}";
 
     private RunEdges() {
@@ -36,7 +36,6 @@ final class RunEdges {
 
     private static RadixDesk with(String text, boolean isWide, long... bits) {
         RadixDesk desk = Edge.deskOf(isWide, bits);
-        desk.type(0);
         Check.type(desk, text);
         return desk;
     }
