@@ -462,7 +462,7 @@ final class CellEdges {
     }
 
     private static void number() {
-        Check.sentence("Promise 6", "Returns the number of a cell. Returns its number.");
+        Check.sentence("Promise 6", "Returns the number of a cell.");
         for (boolean isWide : Edge.BOTH) {
             for (long bits : NUMBERS) {
                 for (int cell : new int[] {0, 7}) {
@@ -473,6 +473,9 @@ final class CellEdges {
             }
         }
         Edge.changesNothing("number(7)", desk -> desk.number(7));
+        Check.sentence("Promise 6", "Returns its number.");
+        Check.due("number() of 2^31 (narrow)", Edge.deskOf(false, 1L << 31).number(0), Integer.MIN_VALUE);
+        Check.due("number() of 2^31 (wide)", Edge.deskOf(true, 1L << 31).number(0), 1L << 31);
         Check.sentence("Promise 6", "Throws `IndexOutOfBoundsException` if there is no such cell");
         Edge.cells("number", (desk, cell) -> desk.number(cell));
     }

@@ -6,10 +6,13 @@ import java.util.Arrays;
 import java.util.LinkedHashMap;
 import java.util.List;
 import java.util.Map;
+import java.util.regex.Matcher;
+import java.util.regex.Pattern;
 
-/** The document's sections, to see that each sentence is tested somewhere. */
+/** The document's sections, to see that each sentence is tested somewhere, and the face that it tells. */
 final class Document {
     private static final Path FILE = Path.of("../shared/DOC.md");
+    private static final Pattern SIGNATURE = Pattern.compile("^`([^`]*\\(.*?\\)[^`]*)`");
 
     private Document() {
     }
@@ -49,18 +52,18 @@ final class Document {
         return found;
     }
 
-    /** "Terms 1" to "Terms 4" and "Promise 1" to "Promise 45", each in one line. */
+    /** "What it is", "Terms 1" to "Terms 4" and "Promise 1" to "Promise 45", each in one line without its signature. */
     private static Map<String, String> sections(List<String> lines) {
         Map<String, String> sections = new LinkedHashMap<>();
         String name = "";
         for (String line : lines) {
             if (line.startsWith("## ")) {
-                name = line.startsWith("## Promise ") ? line.substring(3).replaceAll(":.*", "") : "";
-                name = line.equals("## Terms") ? "Terms" : name;
+                name = nameOf(line.substring(3));
             } else if (name.startsWith("Terms") && line.matches("\\d\\. .*")) {
                 name = "Terms " + line.charAt(0);
-            } else if (!name.isEmpty() && !isLeftOut(line)) {
-                sections.merge(name, line.replaceAll("^`[^`]*\\(.*?\\)[^`]*`: ", "").trim(), (a, b) -> (a + " " + b).trim());
+            } else if (!name.isEmpty() && !line.startsWith("```")) {
+                String words = line.replaceAll(SIGNATURE.pattern() + ": ", "").replaceAll("^- `", "`").trim();
+                sections.merge(name, words, (a, b) -> (a + " " + b).trim());
             }
         }
         sections.remove("Terms");
@@ -68,8 +71,34 @@ final class Document {
         return sections;
     }
 
-    /** What is no sentence: the fence of the grammar, and what an argument is called. */
-    private static boolean isLeftOut(String line) {
-        return line.startsWith("```") || line.startsWith("- `");
+    /** Empty for what has no sentence to be tested: the face, which FaceTest looks at, and what is not promised. */
+    private static String nameOf(String heading) {
+        boolean isTested = heading.equals("What it is") || heading.equals("Terms") || heading.startsWith("Promise ");
+        return isTested ? heading.replaceAll(":.*", "") : "";
+    }
+
+    /** The lines of the face that tell a member, without what every one of them has. */
+    static List<String> face() throws IOException {
+        List<String> face = new ArrayList<>();
+        boolean isFace = false;
+        for (String line : Files.readAllLines(FILE)) {
+            isFace = line.startsWith("## ") ? line.equals("## The public face") : isFace;
+            if (isFace && line.startsWith("    public ")) {
+                face.add(line.trim().replaceAll("^public |;$", ""));
+            }
+        }
+        return face;
+    }
+
+    /** What stands at the head of each promise, in their order. */
+    static List<String> signatures() throws IOException {
+        List<String> signatures = new ArrayList<>();
+        for (String line : Files.readAllLines(FILE)) {
+            Matcher signature = SIGNATURE.matcher(line);
+            if (signature.find()) {
+                signatures.add(signature.group(1));
+            }
+        }
+        return signatures;
     }
 }

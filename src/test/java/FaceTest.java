@@ -1,3 +1,4 @@
+import java.io.IOException;
 import java.lang.reflect.Constructor;
 import java.lang.reflect.Field;
 import java.lang.reflect.Method;
@@ -55,7 +56,10 @@ public final class FaceTest {
         "long spread(int) IndexOutOfBoundsException",
     };
 
-    public static void main(String[] args) throws IllegalAccessException {
+    private static final List<String> CONSTANTS = List.of("ADD = 0", "AND = 3", "BINARY = 2", "HEX = 0", "MULTIPLY = 2",
+        "NONE = -1", "OCTAL = 1", "OR = 4", "SUBTRACT = 1", "XOR = 5");
+
+    public static void main(String[] args) throws IllegalAccessException, IOException {
         Class<?> face = RadixDesk.class;
         Check.due("modifiers of the class", Modifier.toString(face.getModifiers()), "public final");
         List<String> methods = new ArrayList<>();
@@ -76,6 +80,11 @@ public final class FaceTest {
         for (Method method : face.getDeclaredMethods()) {
             boolean bearsPublicName = Modifier.isPrivate(method.getModifiers()) && names.contains(method.getName());
             Check.due("private " + method.getName() + " bears a public name", bearsPublicName, false);
+        }
+        if (Document.isThere()) {
+            document();
+        } else {
+            System.out.println("the document is not there: its face was not compared");
         }
         Check.end();
     }
@@ -102,7 +111,38 @@ public final class FaceTest {
             }
         }
         Collections.sort(constants);
-        Check.due("the constants", constants, List.of("ADD = 0", "AND = 3", "BINARY = 2", "HEX = 0", "MULTIPLY = 2",
-            "NONE = -1", "OCTAL = 1", "OR = 4", "SUBTRACT = 1", "XOR = 5"));
+        Check.due("the constants", constants, CONSTANTS);
+    }
+
+    /** What is compared with the class above must be what the document says, as its face and at each promise. */
+    private static void document() throws IOException {
+        List<String> methods = new ArrayList<>();
+        List<String> constants = new ArrayList<>();
+        List<String> calls = new ArrayList<>();
+        for (String line : Document.face()) {
+            if (line.startsWith("static final int ")) {
+                constants.addAll(List.of(line.replace("static final int ", "").split(", ")));
+                continue;
+            }
+            calls.add(line);
+            if (!line.equals("RadixDesk()")) {
+                methods.add(told(line));
+            }
+        }
+        Collections.sort(methods);
+        Collections.sort(constants);
+        Check.due("the document's methods", methods, List.of(FACE));
+        Check.due("the document's constants", constants, CONSTANTS);
+        Check.due("the document's promises", Document.signatures(), calls);
+        Check.due("the constructor's promise", calls.indexOf("RadixDesk()"), 0);
+    }
+
+    /** A line of the document, told as a method of the class is. */
+    private static String told(String line) {
+        int open = line.indexOf('(');
+        int close = line.indexOf(')');
+        String parameters = line.substring(open + 1, close).replaceAll(" \\w+(?=,|$)", "");
+        String exceptions = line.substring(close + 1).replace(" throws", "").replace(",", "");
+        return line.substring(0, open) + "(" + parameters + ")" + exceptions;
     }
 }

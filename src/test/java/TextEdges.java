@@ -203,13 +203,14 @@ final class TextEdges {
     }
 
     private static void pageAt() {
-        Check.sentence("Promise 17", "Returns a byte of the page. Returns the byte.");
+        Check.sentence("Promise 17", "Returns a byte of the page.");
         RadixDesk desk = Edge.deskOf(true, Long.MIN_VALUE + 1, -1);
         desk.write(0, 2, false);
         Check.due("pageAt(0)", desk.pageAt(0), '-');
         for (int k = 1; k < 64; k++) {
             Check.due("pageAt(" + k + ")", desk.pageAt(k), '1');
         }
+        Check.sentence("Promise 17", "Returns the byte.");
         desk.write(0, 36, false);
         Check.due("page of 13 digits", Check.page(desk), "-1y2p0ij32e8e7");
         Edge.changesNothing("pageAt()", other -> other.pageAt(2));

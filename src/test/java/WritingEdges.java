@@ -219,7 +219,7 @@ final class WritingEdges {
     }
 
     private static void digitAt() {
-        Check.sentence("Promise 20", "Returns a digit of what write() would write. Returns what the digit stands for.");
+        Check.sentence("Promise 20", "Returns a digit of what write() would write.");
         for (int radix : new int[] {2, 3, 10, 11, 35, 36}) {
             for (int way = 0; way < 4; way++) {
                 boolean isPlain = way % 2 == 1;
@@ -235,6 +235,12 @@ final class WritingEdges {
             }
         }
         Edge.changesNothing("digitAt()", desk -> desk.digitAt(7, 7, 1, false));
+        Check.sentence("Promise 20", "Returns what the digit stands for.");
+        for (int digit = 0; digit < 36; digit++) {
+            Check.due("the digit " + digit, Edge.deskOf(false, 36 + digit).digitAt(0, 36, 0, false), digit);
+            Check.due("the digit " + digit + " in front", Edge.deskOf(false, -digit * 36).digitAt(0, 36,
+                digit == 0 ? 0 : 1, false), digit);
+        }
         Check.sentence("Promise 20", NO_CELL);
         Edge.cells("digitAt", (desk, cell) -> desk.digitAt(cell, 2, 0, false));
         for (int cell : Edge.NO_CELLS) {
@@ -265,8 +271,7 @@ final class WritingEdges {
     }
 
     private static void digitSum() {
-        Check.sentence("Promise 21", "Adds up all digits of what write() would write. Returns what they stand for, added"
-            + " up.");
+        Check.sentence("Promise 21", "Adds up all digits of what write() would write.");
         for (int radix = 2; radix <= 36; radix++) {
             for (int way = 0; way < 4; way++) {
                 boolean isPlain = way % 2 == 1;
@@ -280,6 +285,7 @@ final class WritingEdges {
                 }
             }
         }
+        Check.sentence("Promise 21", "Returns what they stand for, added up.");
         Check.due("digitSum() of 0", new RadixDesk().digitSum(0, 10, false), 0);
         Check.due("digitSum() of -12", Edge.deskOf(false, -12).digitSum(0, 10, false), 3);
         Check.due("digitSum() of 64 ones", Edge.deskOf(true, -1).digitSum(0, 2, true), 64);
