@@ -138,8 +138,8 @@ final class ArgumentEdges {
                 divided(cell, by, cell == 7 || by == 7 ? 6 : 7);
             }
         }
-        Check.sentence("Promise 37", "`rest`: number of a cell, which may be one of both (then only the rest is there in"
-            + " the end, if it is the first one)");
+        Check.sentence("Promise 37", "`rest`: number of a cell, which may be one of both (then only the rest is there"
+            + " in the end, if it is the first one)");
         for (int cell = 0; cell < 8; cell++) {
             for (int by = 0; by < 8; by++) {
                 for (int rest = 0; rest < 8; rest++) {
@@ -230,7 +230,8 @@ final class ArgumentEdges {
                 Check.due("by radix " + radix, told[k].on(desk, radix), ten);
             }
             for (int radix : FAR) {
-                Edge.taken("radix " + radix, Edge.deskOf(true, 0, -7657, 7667, 10000), desk -> desk.write(1, radix, true));
+                RadixDesk desk = Edge.deskOf(true, 0, -7657, 7667, 10000);
+                Check.due("by radix " + radix, told[k].on(desk, radix), ten);
             }
         }
     }

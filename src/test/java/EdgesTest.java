@@ -27,8 +27,8 @@ public final class EdgesTest {
     }
 
     private static void whatItIs() {
-        Check.sentence("What it is", "A desk for whole numbers that are written in any radix from 2 to 36 and taken apart"
-            + " bit by bit:");
+        Check.sentence("What it is", "A desk for whole numbers that are written in any radix from 2 to 36 and taken"
+            + " apart bit by bit:");
         for (int radix = 2; radix <= 36; radix++) {
             RadixDesk desk = Edge.deskOf(true, -1, 0x7fff_ffff_ffff_ff5aL);
             desk.write(1, radix, false);
