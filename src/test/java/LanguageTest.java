@@ -5,6 +5,7 @@ import java.lang.reflect.Modifier;
 import java.nio.file.Files;
 import java.nio.file.Path;
 import java.util.ArrayList;
+import java.util.HashSet;
 import java.util.List;
 import java.util.Set;
 import java.util.regex.Matcher;
@@ -104,6 +105,12 @@ public final class LanguageTest {
     }
 
     private static void classes() {
+        Set<String> face = new HashSet<>();
+        for (Method method : RadixDesk.class.getDeclaredMethods()) {
+            if (Modifier.isPublic(method.getModifiers())) {
+                face.add(method.getName());
+            }
+        }
         List<Class<?>> all = new ArrayList<>(List.of(RadixDesk.class));
         for (Class<?> inside : RadixDesk.class.getDeclaredClasses()) {
             all.add(inside);
@@ -117,6 +124,8 @@ public final class LanguageTest {
             for (Method method : one.getDeclaredMethods()) {
                 Check.due(method + " has too many parameters", method.getParameterCount() > MOST_PARAMETERS, false);
                 Check.due("type of " + method, isType(method.getReturnType()), true);
+                boolean bearsPublicName = Modifier.isPrivate(method.getModifiers()) && face.contains(method.getName());
+                Check.due(method + " bears a name of the face", bearsPublicName, false);
                 for (Class<?> parameter : method.getParameterTypes()) {
                     Check.due("parameter of " + method, isType(parameter) || one.isEnum(), true);
                 }
